@@ -352,12 +352,12 @@ public final class PaperRepeats {
             return width < 1 ? 0 : cell / width;
         }
 
+        /** The cell at a place of any print. */
         int cellAt(int x, int y) {
-            return wrap(y, height) * width + wrap(x, width);
-        }
-
-        static int wrap(int value, int size) {
-            return size < 1 ? 0 : Math.floorMod(value, size);
+            if (width < 1 || height < 1) {
+                return 0;
+            }
+            return Math.floorMod(y, height) * width + Math.floorMod(x, width);
         }
 
         static int turnedX(int turn, int x, int y) {
@@ -680,21 +680,22 @@ public final class PaperRepeats {
             if (quarter) {
                 return mirrored == 4 ? 10 : 11;
             }
-            return half ? kindWithHalf(mirrored) : kindWithoutTurns(mirrored);
+            boolean plain = mirrored > 0 && allMirrorsBehindShifts();
+            return half ? kindWithHalf(mirrored, plain) : kindWithoutTurns(mirrored, plain);
         }
 
-        int kindWithHalf(int mirrored) {
+        static int kindWithHalf(int mirrored, boolean plain) {
             if (mirrored == 2) {
-                return allMirrorsBehindShifts() ? 5 : 8;
+                return plain ? 5 : 8;
             }
             return mirrored == 1 ? 6 : 7;
         }
 
-        int kindWithoutTurns(int mirrored) {
+        static int kindWithoutTurns(int mirrored, boolean plain) {
             if (mirrored == 0) {
                 return 3;
             }
-            return allMirrorsBehindShifts() ? 2 : 4;
+            return plain ? 2 : 4;
         }
 
         int fitCount() {

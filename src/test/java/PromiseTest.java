@@ -48,6 +48,7 @@ public final class PromiseTest {
         pieces();
         piece();
         count();
+        largestPatch();
         System.out.println(wrong == 0 ? "all promises hold" : wrong + " answers are not as due");
         if (wrong != 0) {
             System.exit(1);
@@ -559,6 +560,7 @@ public final class PromiseTest {
         due("keepsBy(2, 1), 0 is not 1", x.keepsBy(2, 1), 0);
         x = paper(2, "9999");
         due("keepsBy(1, 1), all hidden", x.keepsBy(1, 1), 1);
+        due("keepsBy(0, 1) of one cell", paper(2, "0").keepsBy(0, 1), 0);
     }
 
     private static void by() {
@@ -911,9 +913,53 @@ public final class PromiseTest {
         due("count(LOWEST)", x.count(LOWEST), BAD);
         due("count(HIGHEST)", x.count(HIGHEST), BAD);
         x = paper(4, "99");
+        due("count(2), all hidden", x.count(2), 2);
         due("count(4), all hidden", x.count(4), 0);
+        x.patch(6, 6);
+        for (int cell = 0; cell < 36; cell++) {
+            x.dye(cell, 9);
+        }
+        due("count(2), 36 hidden", x.count(2), 36);
+        due("count(4), 36 hidden", x.count(4), 0);
         x = paper(4, "0123");
         due("count(4) of all", x.count(4), 4);
         due("count(2) of none", x.count(2), 0);
+    }
+
+    /** Every row is used to its end here. */
+    private static void largestPatch() {
+        promise = 0;
+        PaperRepeats x = new PaperRepeats();
+        x.patch(6, 6);
+        x.colours(4);
+        x.dye(35, 3);
+        due("go(36)", x.go(36), 2);
+        due("at(30)", x.at(30), 0);
+        due("at(31)", x.at(31), 3);
+        due("kind()", x.kind(), 10);
+        due("least()", x.least(), 36);
+        due("like()", x.like(), 36);
+        due("first(35)", x.first(35), 3);
+        due("toFirst()", x.toFirst(), 4);
+        due("swaps()", x.swaps(), 8);
+        due("by(1)", x.by(1), NONE);
+        due("kept(8)", x.kept(8), 8);
+        due("keeper(7)", x.keeper(7), 252);
+        due("keeper(8)", x.keeper(8), NONE);
+        due("pieces(false)", x.pieces(false), 2);
+        due("pieces(true)", x.pieces(true), 1);
+        due("piece(0)", x.piece(0), 35);
+        due("tell(1)", x.tell(1), 1);
+        due("tell(6)", x.tell(6), 2);
+        due("tell(36)", x.tell(36), 3);
+        due("tell(287)", x.tell(287), 4);
+        due("together()", x.together(), 288);
+        due("rings()", x.rings(), 1);
+        due("ring(35)", x.ring(35), 0);
+        due("torn()", x.torn(), 1);
+        due("mend(true)", x.mend(true), 1);
+        due("like() of one colour", x.like(), 1);
+        due("pieces(true) of one colour", x.pieces(true), 1);
+        due("piece(35) of one colour", x.piece(35), 36);
     }
 }
