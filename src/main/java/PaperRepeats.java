@@ -357,7 +357,9 @@ public final class PaperRepeats {
             if (width < 1 || height < 1) {
                 return 0;
             }
-            return Math.floorMod(y, height) * width + Math.floorMod(x, width);
+            int column = x % width;
+            int row = y % height;
+            return (row < 0 ? row + height : row) * width + (column < 0 ? column + width : column);
         }
 
         static int turnedX(int turn, int x, int y) {
