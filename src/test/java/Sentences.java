@@ -10,7 +10,7 @@ import java.util.Map;
  * own: a run of rows on a new object. A row is one of
  *
  * <pre>
- *   name(arguments) answer    a call and what is due; the names of the constants, LOWEST and HIGHEST stand for numbers
+ *   name(arguments) answer    a call and what is due; constants, LOWEST and HIGHEST stand for their numbers
  *   name(*) answers           a call for each of 0, 1, 2 .. and what is due of each
  *   rows 012 120              a patch of these rows of colours (9: hidden)
  *   cells 012 120             what all cells have, and no cell behind them
@@ -125,7 +125,8 @@ abstract class Sentences {
         Object[] arguments = new Object[texts.length];
         for (int i = 0; i < texts.length; i++) {
             long value = number(texts[i]);
-            arguments[i] = method.getParameterTypes()[i] == boolean.class ? (Object) (value == 1) : (Object) (int) value;
+            boolean isFlag = method.getParameterTypes()[i] == boolean.class;
+            arguments[i] = isFlag ? (Object) (value == 1) : (Object) (int) value;
         }
         try {
             return ((Number) method.invoke(x, arguments)).longValue();
