@@ -86,12 +86,26 @@ public final class FaceTest {
             demand(Modifier.isStatic(one.getModifiers()), one.getName() + " is static");
             demand(one.getDeclaredFields().length <= 20, one.getName() + " has at most twenty fields");
             for (Method method : one.getDeclaredMethods()) {
+                demand(method.getParameterCount() <= 7, one.getName() + " has long calls: " + method);
                 demand(!names.contains(method.getName()), one.getName() + " has a name of the face: " + method);
             }
         }
     }
 
+    /** The blocks of the classes' methods end at the first line that closes at their own depth. */
+    private static void checkLengths(String source) {
+        Matcher method = Pattern.compile("(?ms)^( +)[\\w ]+\\([\\w, ]*\\) \\{\n.*?^\\1\\}\n").matcher(source);
+        int methods = 0;
+        while (method.find()) {
+            methods++;
+            String text = method.group();
+            demand(text.lines().count() <= 60, "a long method: " + text.lines().findFirst().orElse(""));
+        }
+        demand(methods > 100, "only " + methods + " methods were looked at");
+    }
+
     private static void checkSource(String source) {
+        checkLengths(source);
         String code = source.replaceAll("(?s)/\\*.*?\\*/", "").replaceAll("//[^\n]*", "");
         for (String word : FORBIDDEN) {
             Matcher matcher = Pattern.compile(word).matcher(code);

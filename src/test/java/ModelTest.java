@@ -19,6 +19,9 @@ public final class ModelTest {
         -1, Integer.MIN_VALUE, Integer.MAX_VALUE, -9, 8, 9, 10, 36, 37, 288, 1000, 7, 5, 4,
     };
 
+    /** With a look at each of 36 cells in the end, as many as an object is promised for. */
+    private static final int CALLS_DRAWN = 476;
+
     private static int wrong = 0;
     private static final boolean[] kindSeen = new boolean[12];
     private static final int[] asked = new int[CALLS.length];
@@ -42,7 +45,7 @@ public final class ModelTest {
             }
         }
         for (int seed = 0; seed < 100; seed++) {
-            new ModelTest(seed).run(512);
+            new ModelTest(seed).run(CALLS_DRAWN);
         }
         for (int seed = 0; seed < 800; seed++) {
             new ModelTest(seed).mended();
@@ -73,10 +76,15 @@ public final class ModelTest {
         }
     }
 
-    private static void compareMoves(int w, int h) {
+    private static PaperRepeats patchOf(int w, int h) {
         PaperRepeats paper = new PaperRepeats();
-        Model model = new Model();
         paper.patch(w, h);
+        return paper;
+    }
+
+    private static void compareMoves(int w, int h) {
+        PaperRepeats paper = patchOf(w, h);
+        Model model = new Model();
         model.patch(w, h);
         String size = w + " by " + h + ": ";
         same(size + "moves()", paper.moves(), model.moves());
@@ -85,6 +93,8 @@ public final class ModelTest {
             isMove[move] = true;
         }
         for (int move = 0; move < 8 * w * h; move++) {
+            // An object is promised for 512 calls alone.
+            paper = patchOf(w, h);
             if (!isMove[move]) {
                 same(size + "order(" + move + ")", paper.order(move), -1);
                 same(size + "lead(" + move + ", 0)", paper.lead(move, 0), -1);
